@@ -64,8 +64,8 @@ public final class ModelTest {
                     ordinary[1] = random.nextInt(8); break;
                 case 1: case 14: ordinary[0] = 1 + random.nextInt(8); break;
                 case 3: ordinary[0] = random.nextInt(8); break;
-                case 8: ordinary[0] = disk; ordinary[1] = row; ordinary[3] = 1 + random.nextInt(8);
-                    ordinary[2] = random.nextInt(71 - ordinary[3]); break;
+                case 8: ordinary[0] = disk; ordinary[1] = row; ordinary[3] = random.nextInt(2) == 0 ? 8 : 1 + random.nextInt(8);
+                    ordinary[2] = random.nextInt(2) == 0 ? 62 : random.nextInt(71 - ordinary[3]); break;
                 case 12: ordinary[0] = random.nextInt(13); break;
                 case 13: ordinary[0] = row; ordinary[1] = column; break;
                 default: ordinary[0] = disk; break;

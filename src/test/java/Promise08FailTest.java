@@ -5,7 +5,8 @@ public final class Promise08FailTest {
         refused();
         spoiltCounts();
         whileOff();
-        sparesOnIt();
+        countsAsLost();
+        foundInASpare();
         wrongInputs();
         Due.end();
     }
@@ -35,9 +36,7 @@ public final class Promise08FailTest {
         Due.is("lost still", x.look(2), 24);
         Due.is("refused still", x.fail(3), false);
         Due.is("the blank one may fail again", x.fail(2), true);
-        while (x.rebuild() == 1) {
-            continue;
-        }
+        Racks.all(x::rebuild);
         Due.is("rebuilt", x.look(2), 0);
         Due.is("a second one", x.fail(3), true);
         Due.is("live", x.look(11), 4);
@@ -67,7 +66,7 @@ public final class Promise08FailTest {
     }
 
     /** While it is off, all count as lost whose places lie on the disk, though a spare would be found then. */
-    private static void sparesOnIt() {
+    private static void countsAsLost() {
         StripeField x = Racks.rebuilt();
         x.spoil(1, 0, 0, 1, 1);
         x.replace(0);
@@ -75,7 +74,20 @@ public final class Promise08FailTest {
         x.copyBack();
         Due.is("place", x.place(0, 0), 0);
         Due.is("it counts as lost, beside the spoilt one", x.fail(0), false);
-        Due.is("the spare's own disk is no place", x.place(0, 1), 1);
+        Due.is("it is where it was", x.place(0, 0), 0);
+    }
+
+    /** Behind that it is in its spare, so that another disk of the stripe may fail. */
+    private static void foundInASpare() {
+        StripeField x = Racks.rebuilt();
+        x.replace(0);
+        x.lose(2);
+        x.copyBack();
+        Due.is("fail while off", x.fail(0), true);
+        Due.is("another of its stripe", x.fail(1), true);
+        Due.is("the place", x.place(0, 0), 3);
+        x.open();
+        Racks.areFilled("opened", x);
     }
 
     private static void wrongInputs() {

@@ -5,6 +5,7 @@ public final class Promise10SpoilTest {
         severalBytes();
         answersFalse();
         forged();
+        writtenAnew();
         wrongInputs();
         Due.end();
     }
@@ -79,6 +80,23 @@ public final class Promise10SpoilTest {
         Due.is("written last is what the scrub wrote", x.spoil(0, 0, 62, 8, mask), false);
         Due.is("not what was xored before", x.spoil(0, 0, 62, 4, mask), true);
         Due.is("read", x.read(0, 0), 5);
+    }
+
+    /** What spoilt a cell before it was written says nothing of what comes behind. */
+    private static void writtenAnew() {
+        for (int at = 0; at < 70; at++) {
+            StripeField x = new StripeField(6, 3, 48);
+            Due.is("spoil", x.spoil(0, 0, at, 1, 1), true);
+            Due.is("scrub", x.scrub(), 1);
+            Due.is("spoil what was scrubbed", x.spoil(0, 0, 5, 1, 1), true);
+            Due.is("back as written", x.spoil(0, 0, 5, 1, 1), true);
+            Due.is("none spoilt", x.look(3), 0);
+            x.spoil(1, 0, at, 1, 1);
+            Racks.write(x, 1, 1);
+            Due.is("spoil what was written", x.spoil(1, 0, 5, 1, 1), true);
+            Due.is("back as written", x.spoil(1, 0, 5, 1, 1), true);
+            Due.is("none spoilt", x.look(3), 0);
+        }
     }
 
     private static void wrongInputs() {

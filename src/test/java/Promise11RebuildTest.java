@@ -32,12 +32,10 @@ public final class Promise11RebuildTest {
         Racks.areFilled("rebuilt", x);
         Due.is("the next disk fails", x.fail(1), true);
         Racks.areFilled("second disk failed", x);
-        int steps = 0;
-        while (x.rebuild() == 1) {
-            steps++;
-        }
+        int lost = x.look(2);
+        Due.is("a step for each", Racks.all(x::rebuild), lost);
         Due.is("none is lost", x.look(2), 0);
-        Due.is("some were", steps > 0, true);
+        Due.is("some were", lost > 0, true);
         Racks.areFilled("second disk rebuilt", x);
         Due.is("the third disk fails", x.fail(2), true);
         Racks.areFilled("third disk failed", x);
@@ -48,9 +46,7 @@ public final class Promise11RebuildTest {
         StripeField x = new StripeField(7, 3, 48);
         Racks.fill(x);
         x.fail(0);
-        while (x.rebuild() == 1) {
-            continue;
-        }
+        Racks.all(x::rebuild);
         Due.is("none is lost", x.look(2), 0);
         Due.is("fail", x.fail(1), true);
         int lost = x.look(2);

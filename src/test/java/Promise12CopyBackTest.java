@@ -41,9 +41,7 @@ public final class Promise12CopyBackTest {
         Due.is("one write", x.look(1), writes + 1);
         Due.is("home", x.place(0, 2), 2);
         Due.is("lost", x.look(2), 23);
-        while (x.copyBack() == 1) {
-            continue;
-        }
+        Due.is("the others", Racks.all(x::copyBack), 23);
         Due.is("none is lost", x.look(2), 0);
         Due.is("one write each", x.look(1), writes + 24);
         for (int s = 0; s < 48; s++) {

@@ -1,3 +1,4 @@
+import java.util.function.IntSupplier;
 import java.util.zip.CRC32C;
 
 /** What tests do again and again with a field. */
@@ -66,14 +67,21 @@ final class Racks {
         return write(x, block, number);
     }
 
+    /** Makes steps till there is nothing to do: how many. No rack has as many positions as the bound. */
+    static int all(IntSupplier step) {
+        int count = 0;
+        while (count < 2000 && step.getAsInt() == 1) {
+            count++;
+        }
+        return count;
+    }
+
     /** What a rack of 6 disks, width 3, becomes with disk 0 failed and every lost position rebuilt. */
     static StripeField rebuilt() {
         StripeField x = new StripeField(6, 3, 48);
         fill(x);
         x.fail(0);
-        while (x.rebuild() == 1) {
-            continue;
-        }
+        all(x::rebuild);
         return x;
     }
 
