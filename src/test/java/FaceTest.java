@@ -8,6 +8,7 @@ import java.util.TreeSet;
 /** The class has the document's face and shows nothing else. */
 public final class FaceTest {
     public static void main(String[] args) {
+        Due.sentence("The public face");
         Due.is("the class is public and final", StripeField.class.getModifiers(), Modifier.PUBLIC | Modifier.FINAL);
         TreeSet<String> methods = new TreeSet<>();
         for (Method method : StripeField.class.getDeclaredMethods()) {

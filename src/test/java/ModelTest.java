@@ -1,11 +1,11 @@
 import java.util.Random;
 
-/** Random runs, the same ones each time, of at most 512 calls: StripeField answers what Model does. */
+/** Random runs, the same ones each time, of 512 calls each: StripeField answers what Model does. */
 public final class ModelTest {
     private static final int RUNS = 400;
-    private static final int CALLS = 512;
 
     public static void main(String[] args) {
+        Due.sentence("All of the document");
         for (int run = 0; run < RUNS; run++) {
             run(run);
         }
@@ -23,9 +23,9 @@ public final class ModelTest {
         int span = 1 + random.nextInt(4);
         int steadiness = 1 + random.nextInt(30);
         int count = 0;
-        while (count < CALLS) {
-            Step step = new Step(random, x, span, steadiness);
-            for (int again = 0; again < step.times && count < CALLS; again++) {
+        while (count < Field.CALLS) {
+            Step step = new Step(random, m, span, steadiness);
+            for (int again = 0; again < step.times && count < Field.CALLS; again++) {
                 String name = "run " + run + " (" + disks + ", " + width + ", " + rows + "), call " + count + ": " + step;
                 Due.is(name, step.answer(x), step.answer(m));
                 count++;
@@ -47,7 +47,7 @@ public final class ModelTest {
         final long v;
         final int times;
 
-        Step(Random random, StripeField x, int span, int steadiness) {
+        Step(Random random, Model x, int span, int steadiness) {
             int groups = (x.look(10) - 1) / x.look(9);
             boolean wrong = random.nextInt(60) == 0;
             boolean off = x.look(0) == 0;
@@ -74,7 +74,8 @@ public final class ModelTest {
                 int[] edges = {-1, 0, 8, 9, 16, 48, 64, 70, Integer.MIN_VALUE, Integer.MAX_VALUE};
                 ordinary[random.nextInt(4)] = edges[random.nextInt(edges.length)];
             }
-            a = ordinary[0];
+            // The document does not tell whether NEXT is moved by a call at which power is lost.
+            a = kind == 12 && off && ordinary[0] == Racks.NEXT ? Racks.LOST : ordinary[0];
             b = ordinary[1];
             c = ordinary[2];
             d = ordinary[3];

@@ -5,24 +5,29 @@ import java.util.Random;
  * its last write, as before or behind it, and keeps to that. No stripe has a hole.
  */
 public final class NoBlockLostTest {
-    private static final int RUNS = 300;
-    private static final int EVENTS = 250;
+    private static final int RUNS = 2000;
+    /** As many blocks of the first rows are written and read. */
+    private static final int MOST_BLOCKS = 12;
+    /** An event has at most so many calls, and what comes behind it too. */
+    private static final int EVENT_CALLS = 90;
 
     private final Random random;
-    private final StripeField x;
+    private final Field x;
     private final long[] blocks;
-    private final int span;
+    private boolean on = true;
     private int maybe = -1;
     private long maybeNow;
 
     private NoBlockLostTest(int run) {
         random = new Random(run);
-        x = new StripeField(6 + random.nextInt(11), 3 + random.nextInt(6), 48);
-        blocks = new long[x.look(5)];
-        span = Math.min(blocks.length, 4 + random.nextInt(30));
+        int disks = 6 + random.nextInt(11);
+        int width = 3 + random.nextInt(Math.min(6, disks - 3));
+        x = new Field(disks, width, 48);
+        blocks = new long[2 + random.nextInt(MOST_BLOCKS - 1)];
     }
 
     public static void main(String[] args) {
+        Due.sentence("As long as what happens leaves at most one cell of a stripe lost or spoilt, no block is ever lost.");
         for (int run = 0; run < RUNS; run++) {
             new NoBlockLostTest(run).live();
         }
@@ -30,29 +35,32 @@ public final class NoBlockLostTest {
     }
 
     private void live() {
-        for (int event = 0; event < EVENTS; event++) {
+        while (x.callsLeft() > EVENT_CALLS + MOST_BLOCKS) {
             happen();
-            if (x.look(0) == 0 && random.nextInt(2) == 0) {
+            if (!on && random.nextInt(2) == 0) {
                 x.lose(random.nextInt(3));
-                if (x.open()) {
-                    x.lose(0);
-                }
+                on = x.open();
             }
-            if (x.look(0) == 1) {
+            if (on) {
                 settle();
-                check();
+                x.lose(0);
+                isThere(random.nextInt(blocks.length));
             }
         }
-        Due.is("holes", x.look(6), 0);
+        if (on) {
+            for (int block = 0; block < blocks.length; block++) {
+                isThere(block);
+            }
+        }
+        Due.is("holes", x.look(Racks.HOLES), 0);
     }
 
     private void happen() {
-        boolean on = x.look(0) == 1;
-        int disk = random.nextInt(x.look(10));
+        int disk = random.nextInt(x.disks);
         switch (random.nextInt(on ? 8 : 2)) {
             case 0: x.fail(disk); break;
             case 1: x.replace(disk); break;
-            case 2: x.spoil(disk, random.nextInt(4), random.nextInt(70), 1, 1 + random.nextInt(255)); break;
+            case 2: x.spoil(disk, random.nextInt(3), random.nextInt(70), 1, 1 + random.nextInt(255)); break;
             case 3: steps(0); break;
             case 4: steps(1); break;
             case 5: steps(2); break;
@@ -62,21 +70,20 @@ public final class NoBlockLostTest {
 
     private void steps(int kind) {
         x.lose(random.nextInt(20));
-        int count = 1 + random.nextInt(60);
-        for (int i = 0; i < count && x.look(0) == 1; i++) {
-            int answer = kind == 0 ? x.rebuild() : kind == 1 ? x.copyBack() : x.scrub();
-            Due.is("-1 is told when it is off alone", answer == -1, x.look(0) == 0);
+        int count = 1 + random.nextInt(random.nextInt(4) == 0 ? 60 : 5);
+        for (int i = 0; i < count && on; i++) {
+            on = (kind == 0 ? x.rebuild() : kind == 1 ? x.copyBack() : x.scrub()) != -1;
         }
+        Due.is("-1 is told when it is off alone", x.look(Racks.ON), on ? 1 : 0);
     }
 
     private void write() {
-        int block = random.nextInt(span);
+        int block = random.nextInt(blocks.length);
         long number = random.nextLong();
         x.lose(random.nextInt(7));
-        x.feed(8, number);
-        if (x.write(block)) {
+        on = Racks.write(x, block, number);
+        if (on) {
             blocks[block] = number;
-            x.lose(0);
         } else {
             maybe = block;
             maybeNow = number;
@@ -91,9 +98,7 @@ public final class NoBlockLostTest {
         maybe = -1;
     }
 
-    private void check() {
-        for (int block = 0; block < span; block++) {
-            Due.is("block " + block, x.read(block, 0), blocks[block]);
-        }
+    private void isThere(int block) {
+        Due.is("block " + block, x.read(block, 0), blocks[block]);
     }
 }

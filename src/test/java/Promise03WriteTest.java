@@ -1,150 +1,150 @@
-/** Promise 3: write. */
+/** Promise 3: write. What is written where is in TermsWriteTest. */
 public final class Promise03WriteTest {
-    /** Of 6 disks with width 3: blocks 0 and 1 and parity of stripe 0 lie on the disks 0, 1 and 2. */
-    private static StripeField field() {
-        StripeField x = new StripeField(6, 3, 48);
-        Racks.write(x, 0, 100);
-        Racks.write(x, 1, 200);
-        return x;
-    }
-
     public static void main(String[] args) {
-        allBlocks();
+        toABlock();
         zerosBehind();
+        tapeIsUsedUp();
         powerLost();
-        withALostColumn();
-        withASpoiltColumn();
-        powerLostWithAHurtColumn();
-        throughSpares();
-        wrongInputs();
+        powerLostAtTheLastWrite();
+        powerLostAtTheOnlyWrite();
+        noSuchBlock();
+        whileOff();
         Due.end();
     }
 
-    private static void allBlocks() {
-        StripeField x = new StripeField(9, 4, 50);
-        Racks.fill(x);
-        Due.is("four writes a block", x.look(1), 4 * x.look(5));
-        Racks.areFilled("filled", x);
-        x.fail(3);
-        Racks.areFilled("disk 3 failed", x);
-        for (int s = 0; s < x.look(7); s++) {
-            Due.is("scrub", x.scrub(), 0);
+    private static void toABlock() {
+        Due.sentence("Writes the tape, with 0s behind it up to 64 bytes, to a block");
+        Field x = new Field(9, 4, 50);
+        for (int block = 0; block < 60; block++) {
+            Due.is("write", Racks.write(x, block, 1000 + block), true);
         }
-        Due.is("holes", x.look(6), 0);
+        Racks.areFilled("written", x, 60);
+        Racks.read("the others", x, x.blocks, block -> block < 60 ? 1000 + block : 0);
+        x.fail(3);
+        Racks.areFilled("disk 3 failed", x, 60);
     }
 
     private static void zerosBehind() {
-        StripeField x = new StripeField(6, 3, 48);
-        for (int i = 0; i < 8; i++) {
+        Due.sentence("with 0s behind it up to 64 bytes");
+        for (int bytes = 0; bytes <= 64; bytes++) {
+            Field x = new Field(6, 3, 48);
+            for (int i = 0; i < 8; i++) {
+                x.feed(8, -1L);
+            }
+            x.write(3);
+            for (int i = 0; i < bytes; i++) {
+                x.feed(1, 9);
+            }
+            Due.is("write " + bytes + " bytes", x.write(3), true);
+            for (int k = 0; k < 8; k++) {
+                int there = Math.max(0, Math.min(8, bytes - 8 * k));
+                long want = there == 0 ? 0 : 0x0909090909090909L >>> (64 - 8 * there);
+                Due.is("word " + k + " of " + bytes + " bytes", x.read(3, k), want);
+            }
+        }
+    }
+
+    private static void tapeIsUsedUp() {
+        Due.sentence("the tape is used up either way");
+        for (int n = 0; n <= 4; n++) {
+            Field x = new Field(6, 3, 48);
             x.feed(8, -1L);
+            x.feed(3, -1L);
+            x.lose(n);
+            Due.is("write", x.write(0), n == 0);
+            Due.is("the tape, power lost at " + n, x.look(Racks.TAPE), 0);
+            if (n > 0) {
+                x.open();
+            }
+            Due.is("feed", x.feed(1, 1), 1);
+            x.write(2);
+            Due.is("nothing of the old tape", x.read(2, 0), 1);
+            Due.is("nor behind it", x.read(2, 1), 0);
         }
-        x.write(3);
-        x.feed(1, 9);
-        Due.is("write a byte", x.write(3), true);
-        for (int k = 0; k < 8; k++) {
-            Due.is("word " + k, x.read(3, k), k == 0 ? 9 : 0);
-        }
-        Due.is("write an empty tape", x.write(3), true);
-        Due.is("all 0s", x.read(3, 0), 0);
+        Field x = new Field(6, 3, 48);
+        x.feed(8, -1L);
+        x.fail(0);
+        x.lose(1);
+        Due.is("the only write is lost", x.write(0), false);
+        Due.is("the tape", x.look(Racks.TAPE), 0);
     }
 
     private static void powerLost() {
-        for (int n = 1; n <= 5; n++) {
-            StripeField x = field();
+        Due.sentence("true; false when power was lost");
+        for (int n = 1; n <= 6; n++) {
+            Field x = Racks.six();
+            int before = x.look(Racks.WRITES);
             Due.is("power lost at write " + n, Racks.cutWrite(x, 0, 101, n), n > 4);
-            Due.is("on", x.look(0), n > 4 ? 1 : 0);
-            Due.is("writes done", x.look(1), 8 + Math.min(n - 1, 4));
-            Due.is("tape is used up", x.look(12), 0);
+            Due.is("on", x.look(Racks.ON), n > 4 ? 1 : 0);
+            Due.is("writes done", x.look(Racks.WRITES), before + Math.min(n - 1, 4));
             if (n <= 4) {
-                Due.is("open", x.open(), true);
-                Due.is("opening's writes", x.look(1), 8 + (n - 1) + (n == 1 ? 0 : 2));
+                x.open();
             }
-            Due.is("the block", x.read(0, 0), n <= 2 ? 100 : 101);
-            Due.is("the other", x.read(1, 0), 200);
-            x.fail(1);
-            Due.is("the other, reckoned", x.read(1, 0), 200);
+            Due.is("the block", x.read(0, 0), n <= 2 ? 1000 : 101);
+            Due.is("the other", x.read(1, 0), 1001);
         }
     }
 
-    private static void withALostColumn() {
-        StripeField own = field();
-        own.fail(0);
-        Due.is("the block is lost", Racks.write(own, 0, 101), true);
-        Due.is("one write", own.look(1), 9);
-        Due.is("read", own.read(0, 0), 101);
-        Due.is("the other", own.read(1, 0), 200);
-
-        StripeField other = field();
-        other.fail(1);
-        Due.is("the other is lost", Racks.write(other, 0, 101), true);
-        Due.is("four writes", other.look(1), 12);
-        Due.is("read", other.read(0, 0), 101);
-        Due.is("the other", other.read(1, 0), 200);
-
-        StripeField parity = field();
-        parity.fail(2);
-        Due.is("parity is lost", Racks.write(parity, 0, 101), true);
-        Due.is("one write", parity.look(1), 9);
-        Due.is("read", parity.read(0, 0), 101);
-        Due.is("the other", parity.read(1, 0), 200);
-    }
-
-    private static void withASpoiltColumn() {
-        for (int disk = 0; disk < 3; disk++) {
-            StripeField x = field();
-            Due.is("spoil", x.spoil(disk, 0, 3, 1, 1), true);
-            Due.is("write", Racks.write(x, 0, 101), true);
-            Due.is("four writes", x.look(1), 12);
-            Due.is("spoilt", x.look(3), disk == 1 ? 1 : 0);
-            Due.is("read", x.read(0, 0), 101);
-            Due.is("the other", x.read(1, 0), 200);
-        }
-    }
-
-    private static void powerLostWithAHurtColumn() {
-        for (int disk = 0; disk < 3; disk++) {
-            for (int n = 1; n <= 4; n++) {
-                for (int way = 0; way < 2; way++) {
-                    StripeField x = field();
-                    boolean lost = way == 0;
-                    Due.is("hurt", lost ? x.fail(disk) : x.spoil(disk, 0, 0, 8, 77), true);
-                    boolean done = Racks.cutWrite(x, 0, 101, n);
-                    boolean oneWrite = lost && disk != 1;
-                    Due.is("write", done, oneWrite && n > 1);
-                    if (!done) {
-                        Due.is("open", x.open(), true);
-                    }
-                    String when = "disk " + disk + (lost ? " lost" : " spoilt") + ", power lost at " + n;
-                    Due.is(when + ": the block", x.read(0, 0), n > 2 || done ? 101 : 100);
-                    Due.is(when + ": the other", x.read(1, 0), 200);
-                }
-            }
-        }
-    }
-
-    private static void throughSpares() {
-        StripeField x = Racks.rebuilt();
-        int before = x.look(1);
-        Due.is("write to a spare", Racks.write(x, 0, 5), true);
-        Due.is("four writes", x.look(1), before + 4);
-        x.off();
+    private static void powerLostAtTheLastWrite() {
+        Due.sentence("(also at the last write of it)");
+        Field x = Racks.six();
+        int before = x.look(Racks.WRITES);
+        Due.is("write", Racks.cutWrite(x, 0, 101, 4), false);
+        Due.is("it is off", x.look(Racks.ON), 0);
+        Due.is("three writes", x.look(Racks.WRITES), before + 3);
         x.open();
-        Due.is("the place has its tag", x.place(0, 0), 3);
-        Due.is("read", x.read(0, 0), 5);
-        x.fail(1);
-        Due.is("the other, reckoned", x.read(1, 0), 1001);
+        Due.is("the block is written all the same", x.read(0, 0), 101);
+        Field y = Racks.six();
+        Due.is("one write further", Racks.cutWrite(y, 0, 101, 5), true);
+        Due.is("it is on", y.look(Racks.ON), 1);
     }
 
-    private static void wrongInputs() {
-        StripeField x = field();
-        x.feed(4, 4);
-        for (int block : new int[] {-1, 96, Integer.MIN_VALUE, Integer.MAX_VALUE}) {
-            Due.argument("write(" + block + ")", x, () -> x.write(block));
+    /** In row 0 disk 0 has block 0, disk 2 the parity. */
+    private static void powerLostAtTheOnlyWrite() {
+        Due.sentence("(also at the last write of it)");
+        for (int disk = 0; disk <= 2; disk += 2) {
+            Field x = Racks.six();
+            x.fail(disk);
+            Due.is("the only write", Racks.cutWrite(x, 0, 101, 1), false);
+            Due.is("it is off", x.look(Racks.ON), 0);
+            x.open();
+            Due.is("the block is as it was", x.read(0, 0), 1000);
+            Due.is("one write further", Racks.cutWrite(x, 0, 101, 2), true);
+            Due.is("the block", x.read(0, 0), 101);
         }
-        Due.is("the last block", x.write(95), true);
+    }
+
+    private static void noSuchBlock() {
+        Due.sentence("Throws IllegalArgumentException when there is no such block");
+        for (int[] sizes : new int[][] {{6, 3, 48}, {7, 3, 48}, {16, 8, 64}, {16, 3, 64}}) {
+            Field x = new Field(sizes[0], sizes[1], sizes[2]);
+            x.feed(4, 4);
+            Due.argument("-1", x, () -> x.write(-1));
+            Due.argument("one behind the last", x, () -> x.write(x.blocks));
+            Due.argument("min", x, () -> x.write(Integer.MIN_VALUE));
+            Due.argument("max", x, () -> x.write(Integer.MAX_VALUE));
+            Due.is("the last one", x.write(x.blocks - 1), true);
+            Due.is("has it", x.read(x.blocks - 1, 0), 4);
+            x.feed(4, 5);
+            Due.is("the first one", x.write(0), true);
+            Due.is("has it", x.read(0, 0), 5);
+        }
+    }
+
+    private static void whileOff() {
+        Due.sentence("IllegalStateException when it is off.");
+        Field x = new Field(6, 3, 48);
         x.feed(4, 4);
         x.off();
-        Due.state("write while off", x, () -> x.write(0));
-        Due.argument("wrong block comes first", x, () -> x.write(96));
+        Due.state("off", x, () -> x.write(0));
+        Due.argument("no such block is told first", x, () -> x.write(96));
+        Field y = new Field(6, 3, 48);
+        Racks.cutWrite(y, 0, 1, 2);
+        y.feed(4, 4);
+        Due.state("power lost", y, () -> y.write(0));
+        y.lose(1);
+        y.open();
+        y.feed(4, 4);
+        Due.state("power lost in the opening", y, () -> y.write(95));
     }
 }

@@ -1,70 +1,92 @@
-/** Promise 4: read. */
+/** Promise 4: read. How a block is reckoned is in TermsReadTest. */
 public final class Promise04ReadTest {
     public static void main(String[] args) {
-        wordsOfABlock();
-        hurt();
-        wrongInputs();
+        eightBytes();
+        writesNothing();
+        noSuchBlock();
+        wrongWord();
+        whileOff();
         Due.end();
     }
 
-    private static StripeField eightWords() {
-        StripeField x = new StripeField(8, 5, 48);
+    private static Field eightWords(int block) {
+        Field x = new Field(8, 5, 48);
         for (int k = 0; k < 8; k++) {
             x.feed(8, word(k));
         }
-        x.write(2);
+        x.write(block);
         return x;
     }
 
     private static long word(int k) {
-        return 0x8000000000000001L + 0x0101010101010101L * k;
+        return 0x8000000000000001L + 0x0102030405060708L * k;
     }
 
-    private static void areThere(String when, StripeField x) {
-        for (int k = 0; k < 8; k++) {
-            Due.is(when + ": word " + k, x.read(2, k), word(k));
+    private static void eightBytes() {
+        Due.sentence("Eight bytes of a block, from 8 * k on, lowest first, as a number.");
+        for (int block : new int[] {0, 2, 3, 4, 191}) {
+            Field x = eightWords(block);
+            for (int k = 0; k < 8; k++) {
+                Due.is("word " + k, x.read(block, k), word(k));
+                Due.is("of another block", x.read((block + 1) % 192, k), 0);
+            }
         }
+        Field x = new Field(8, 5, 48);
+        x.feed(8, Long.MIN_VALUE);
+        x.feed(8, -1L);
+        x.write(0);
+        Due.is("the highest bit alone", x.read(0, 0), Long.MIN_VALUE);
+        Due.is("all bits", x.read(0, 1), -1L);
     }
 
-    private static void wordsOfABlock() {
-        StripeField x = eightWords();
-        areThere("written", x);
-        Due.is("reading writes nothing", x.look(1), 4);
-        Due.is("another block", x.read(3, 0), 0);
-    }
-
-    private static void hurt() {
-        for (int at = 0; at < 70; at++) {
-            StripeField x = eightWords();
-            Due.is("spoil byte " + at, x.spoil(2, 0, at, 1, 16), true);
-            areThere("byte " + at + " spoilt", x);
-        }
-        StripeField x = eightWords();
+    private static void writesNothing() {
+        Due.sentence("Eight bytes of a block, from 8 * k on");
+        Field x = eightWords(2);
+        x.lose(1);
         x.fail(2);
-        areThere("lost", x);
-        x.rebuild();
-        areThere("in a spare", x);
-        Due.is("spoil the spare", x.spoil(x.place(0, 2), 0, 8, 1, 16), true);
-        areThere("spare spoilt", x);
-        x.off();
-        x.open();
-        Due.is("lost once more", x.place(0, 2), -1);
-        areThere("spare not found", x);
+        Due.is("read", x.read(2, 7), word(7));
+        Due.is("it is on", x.look(Racks.ON), 1);
+        Due.is("no write", x.look(Racks.WRITES), 4);
+        Due.is("it stays lost", x.look(Racks.LOST) > 0, true);
     }
 
-    private static void wrongInputs() {
-        StripeField x = eightWords();
-        int blocks = x.look(5);
-        for (int block : new int[] {-1, blocks, Integer.MIN_VALUE, Integer.MAX_VALUE}) {
-            Due.argument("read(" + block + ", 0)", x, () -> x.read(block, 0));
+    private static void noSuchBlock() {
+        Due.sentence("Throws IllegalArgumentException when there is no such block");
+        for (int[] sizes : new int[][] {{6, 3, 48}, {7, 3, 48}, {16, 8, 64}, {16, 3, 64}}) {
+            Field x = new Field(sizes[0], sizes[1], sizes[2]);
+            Due.argument("-1", x, () -> x.read(-1, 0));
+            Due.argument("one behind the last", x, () -> x.read(x.blocks, 0));
+            Due.argument("min", x, () -> x.read(Integer.MIN_VALUE, 0));
+            Due.argument("max", x, () -> x.read(Integer.MAX_VALUE, 0));
+            Due.is("the first one", x.read(0, 0), 0);
+            Due.is("the last one", x.read(x.blocks - 1, 0), 0);
         }
-        for (int k : new int[] {-1, 8, Integer.MIN_VALUE, Integer.MAX_VALUE}) {
-            Due.argument("read(0, " + k + ")", x, () -> x.read(0, k));
+    }
+
+    private static void wrongWord() {
+        Due.sentence("or k is not 0 .. 7");
+        Field x = eightWords(2);
+        for (int k : new int[] {-1, 8, 9, 64}) {
+            Due.argument("k " + k, x, () -> x.read(2, k));
         }
-        Due.is("the last block", x.read(blocks - 1, 7), 0);
+        for (int k : Racks.FAR) {
+            Due.argument("k " + k, x, () -> x.read(2, k));
+        }
+        Due.argument("the last block", x, () -> x.read(191, 8));
+        Due.is("0", x.read(2, 0), word(0));
+        Due.is("7", x.read(2, 7), word(7));
+    }
+
+    private static void whileOff() {
+        Due.sentence("IllegalStateException when it is off.");
+        Field x = eightWords(2);
         x.off();
-        Due.state("read while off", x, () -> x.read(0, 0));
-        Due.argument("wrong block comes first", x, () -> x.read(blocks, 0));
-        Due.argument("wrong k comes first", x, () -> x.read(0, 8));
+        Due.state("off", x, () -> x.read(2, 0));
+        Due.argument("no such block is told first", x, () -> x.read(192, 0));
+        Due.argument("a wrong k too", x, () -> x.read(2, 8));
+        x.open();
+        Due.is("opened", x.read(2, 0), word(0));
+        Racks.cutWrite(x, 2, 1, 1);
+        Due.state("power lost", x, () -> x.read(2, 0));
     }
 }

@@ -1,101 +1,98 @@
-/** Promise 8: fail. */
+/** Promise 8: fail. What is refused is in TermsRefusedTest too. */
 public final class Promise08FailTest {
     public static void main(String[] args) {
-        one();
-        refused();
-        spoiltCounts();
+        fails();
+        firstAndLast();
         whileOff();
-        countsAsLost();
-        foundInASpare();
-        wrongInputs();
+        failedAlready();
+        refused();
+        noSuchDisk();
         Due.end();
     }
 
-    private static void one() {
-        StripeField x = new StripeField(6, 3, 48);
-        Racks.fill(x);
-        int writes = x.look(1);
+    private static void fails() {
+        Due.sentence("A disk fails: true");
+        Field x = Racks.six();
+        int writes = x.look(Racks.WRITES);
         Due.is("fail", x.fail(5), true);
-        Due.is("live", x.look(11), 5);
-        Due.is("lost", x.look(2), 24);
-        Due.is("free spares", x.look(4), 48 * 3 - 24);
-        Due.is("no write", x.look(1), writes);
-        Due.is("it is failed", x.fail(5), false);
-        Racks.areFilled("failed", x);
+        Due.is("live", x.look(Racks.LIVE), 5);
+        Due.is("lost", x.look(Racks.LOST), 24);
+        Due.is("free spares", x.look(Racks.FREE), 48 * 3 - 24);
+        Due.is("no write", x.look(Racks.WRITES), writes);
+        Racks.areFilled("failed", x, x.blocks);
     }
 
-    private static void refused() {
-        StripeField x = new StripeField(6, 3, 48);
-        Due.is("fail", x.fail(2), true);
-        // Disks 2 and 5 share no stripe: a stripe lies on three disks side by side.
-        for (int disk = 0; disk < 5; disk++) {
-            Due.is("a second one, " + disk, x.fail(disk), false);
+    private static void firstAndLast() {
+        Due.sentence("A disk fails: true");
+        for (int disks = 6; disks <= 16; disks++) {
+            for (int disk = 0; disk < disks; disk++) {
+                Field x = new Field(disks, 3, 48);
+                Due.is("fail", x.fail(disk), true);
+                Due.is("live", x.look(Racks.LIVE), disks - 1);
+                Due.is("none lies on it", x.place(disk, 0), -1);
+                Due.is("the others are there", x.place((disk + 1) % disks, 0), (disk + 1) % disks);
+            }
         }
-        Due.is("live", x.look(11), 5);
-        x.replace(2);
-        Due.is("lost still", x.look(2), 24);
-        Due.is("refused still", x.fail(3), false);
-        Due.is("the blank one may fail again", x.fail(2), true);
-        Racks.all(x::rebuild);
-        Due.is("rebuilt", x.look(2), 0);
-        Due.is("a second one", x.fail(3), true);
-        Due.is("live", x.look(11), 4);
-    }
-
-    private static void spoiltCounts() {
-        StripeField x = new StripeField(6, 3, 48);
-        x.spoil(0, 0, 0, 1, 1);
-        Due.is("the other data", x.fail(1), false);
-        Due.is("parity", x.fail(2), false);
-        Due.is("its own disk", x.fail(0), true);
-        StripeField y = new StripeField(6, 3, 48);
-        y.spoil(0, 0, 0, 1, 1);
-        Due.is("a disk that has a spare there", y.fail(4), true);
-        y.off();
-        Due.is("while off", y.fail(1), false);
     }
 
     private static void whileOff() {
-        StripeField x = Racks.rebuilt();
+        Due.sentence("A disk fails: true");
+        Field x = Racks.rebuilt();
         x.off();
         Due.is("fail while off", x.fail(3), true);
+        Due.is("live", x.look(Racks.LIVE), 4);
+        Due.is("it is off still", x.look(Racks.ON), 0);
         Due.is("a spare was on it", x.place(0, 0), -1);
-        Due.is("refused", x.fail(1), false);
         x.open();
-        Racks.areFilled("opened", x);
+        Racks.areFilled("opened", x, x.blocks);
     }
 
-    /** While it is off, all count as lost whose places lie on the disk, though a spare would be found then. */
-    private static void countsAsLost() {
-        StripeField x = Racks.rebuilt();
-        x.spoil(1, 0, 0, 1, 1);
-        x.replace(0);
-        x.lose(2);
-        x.copyBack();
-        Due.is("place", x.place(0, 0), 0);
-        Due.is("it counts as lost, beside the spoilt one", x.fail(0), false);
-        Due.is("it is where it was", x.place(0, 0), 0);
-    }
-
-    /** Behind that it is in its spare, so that another disk of the stripe may fail. */
-    private static void foundInASpare() {
-        StripeField x = Racks.rebuilt();
-        x.replace(0);
-        x.lose(2);
-        x.copyBack();
-        Due.is("fail while off", x.fail(0), true);
-        Due.is("another of its stripe", x.fail(1), true);
-        Due.is("the place", x.place(0, 0), 3);
-        x.open();
-        Racks.areFilled("opened", x);
-    }
-
-    private static void wrongInputs() {
-        StripeField x = new StripeField(7, 3, 48);
-        for (int disk : new int[] {-1, 7, Integer.MIN_VALUE, Integer.MAX_VALUE}) {
-            Due.argument("fail(" + disk + ")", x, () -> x.fail(disk));
-        }
+    private static void failedAlready() {
+        Due.sentence("false when it is failed");
+        Field x = Racks.six();
+        x.fail(5);
+        String before = Racks.seen(x);
+        Due.is("failed", x.fail(5), false);
+        Due.is("nothing changes", Racks.seen(x), before);
         x.off();
-        Due.argument("fail(7) while off", x, () -> x.fail(7));
+        Due.is("failed, while off", x.fail(5), false);
+        x.open();
+        Racks.all(x::rebuild);
+        Due.is("rebuilt, it is failed still", x.fail(5), false);
+        x.replace(5);
+        Due.is("replaced, it may fail again", x.fail(5), true);
+    }
+
+    private static void refused() {
+        Due.sentence("or that is refused.");
+        for (int disk = 1; disk < 6; disk++) {
+            Field x = Racks.six();
+            x.fail(0);
+            String before = Racks.seen(x);
+            // Disks 0 and 3 have no stripe together.
+            Due.is("a second one, " + disk, x.fail(disk), disk == 3);
+            Due.is("nothing changes", Racks.seen(x).equals(before), disk != 3);
+        }
+        Field x = Racks.six();
+        x.fail(0);
+        x.off();
+        Due.is("while off", x.fail(1), false);
+        Due.is("while off", x.fail(3), true);
+    }
+
+    private static void noSuchDisk() {
+        Due.sentence("Throws IllegalArgumentException when there is none.");
+        for (int disks : new int[] {6, 7, 16}) {
+            Field x = new Field(disks, 3, 48);
+            x.fail(1);
+            Due.argument("-1", x, () -> x.fail(-1));
+            Due.argument("one behind the last", x, () -> x.fail(disks));
+            for (int far : Racks.FAR) {
+                Due.argument("" + far, x, () -> x.fail(far));
+            }
+            x.off();
+            Due.argument("-1 while off", x, () -> x.fail(-1));
+            Due.argument("one behind the last, while off", x, () -> x.fail(disks));
+        }
     }
 }

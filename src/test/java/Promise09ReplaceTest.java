@@ -1,51 +1,85 @@
 /** Promise 9: replace. */
 public final class Promise09ReplaceTest {
     public static void main(String[] args) {
-        StripeField x = new StripeField(6, 3, 48);
-        Racks.fill(x);
-        Due.is("live", x.replace(2), false);
-        x.fail(2);
-        int writes = x.look(1);
-        Due.is("replace", x.replace(2), true);
-        Due.is("live now", x.replace(2), false);
-        Due.is("live ones", x.look(11), 6);
-        Due.is("all are blank: lost", x.look(2), 24);
-        Due.is("its spares are free", x.look(4), 48 * 3);
-        Due.is("no write", x.look(1), writes);
-        Due.is("a blank cell is no place", x.spoil(2, 0, 0, 1, 1), false);
-        Due.is("nothing to rebuild", x.rebuild(), 0);
-        Racks.areFilled("replaced", x);
-
-        x.off();
-        Due.is("still blank when off", x.look(2), 24);
-        x.fail(2);
-        Due.is("replace while off", x.replace(2), true);
-        x.open();
-        Due.is("opening finds it blank", x.place(0, 2), -1);
-        Due.is("to copy back", x.copyBack(), 1);
-
-        for (int disk : new int[] {-1, 6, Integer.MIN_VALUE, Integer.MAX_VALUE}) {
-            Due.argument("replace(" + disk + ")", x, () -> x.replace(disk));
-        }
-        logIsBlank();
+        replaced();
+        whileOff();
+        manyTimes();
+        live();
+        noSuchDisk();
         Due.end();
     }
 
-    /** The log of a disk that was replaced says nothing, and takes the next writes. */
-    private static void logIsBlank() {
-        StripeField x = new StripeField(6, 3, 48);
-        Racks.fill(x);
-        Racks.cutWrite(x, 0, 5, 3);
-        int writes = x.look(1);
+    private static void replaced() {
+        Due.sentence("A failed disk is replaced: true");
+        for (int disk = 0; disk < 6; disk++) {
+            Field x = Racks.six();
+            x.fail(disk);
+            int writes = x.look(Racks.WRITES);
+            Due.is("replace", x.replace(disk), true);
+            Due.is("live ones", x.look(Racks.LIVE), 6);
+            Due.is("all are blank: lost", x.look(Racks.LOST), 24);
+            Due.is("its spares are free", x.look(Racks.FREE), 48 * 3);
+            Due.is("no write", x.look(Racks.WRITES), writes);
+            Racks.areFilled("replaced", x, x.blocks);
+        }
+    }
+
+    private static void whileOff() {
+        Due.sentence("A failed disk is replaced: true");
+        Field x = Racks.six();
+        x.fail(2);
+        x.off();
+        Due.is("replace while off", x.replace(2), true);
+        Due.is("still lost", x.look(Racks.LOST), 24);
+        Due.is("live ones", x.look(Racks.LIVE), 6);
+        x.open();
+        Due.is("opening finds it blank", x.place(0, 2), -1);
+        Due.is("to copy back", x.copyBack(), 1);
+        Due.is("home", x.place(0, 2), 2);
+    }
+
+    private static void manyTimes() {
+        Due.sentence("A failed disk is replaced: true");
+        Field x = Racks.six();
+        for (int round = 0; round < 10; round++) {
+            Due.is("fail", x.fail(2), true);
+            Due.is("replace", x.replace(2), true);
+            x.copyBack();
+            Due.is("copied back", x.place(0, 2), 2);
+        }
+        Racks.areFilled("replaced", x, x.blocks);
+    }
+
+    private static void live() {
+        Due.sentence("false when it is live.");
+        Field x = Racks.six();
+        String before = Racks.seen(x);
+        for (int disk = 0; disk < 6; disk++) {
+            Due.is("live", x.replace(disk), false);
+        }
+        Due.is("nothing changes", Racks.seen(x), before);
         x.fail(2);
         x.replace(2);
-        x.open();
-        Due.is("opening has no log", x.look(1), writes);
-        Due.is("the block", x.read(0, 0), 5);
-        Due.is("copy back parity", x.copyBack(), 1);
-        Due.is("write", Racks.write(x, 0, 6), true);
-        Due.is("four writes", x.look(1), writes + 5);
-        x.fail(0);
-        Due.is("reckoned", x.read(0, 0), 6);
+        before = Racks.seen(x);
+        Due.is("replaced already", x.replace(2), false);
+        Due.is("nothing changes", Racks.seen(x), before);
+        x.off();
+        Due.is("while off", x.replace(2), false);
+    }
+
+    private static void noSuchDisk() {
+        Due.sentence("Throws IllegalArgumentException when there is none.");
+        for (int disks : new int[] {6, 7, 16}) {
+            Field x = new Field(disks, 3, 48);
+            x.fail(1);
+            Due.argument("-1", x, () -> x.replace(-1));
+            Due.argument("one behind the last", x, () -> x.replace(disks));
+            for (int far : Racks.FAR) {
+                Due.argument("" + far, x, () -> x.replace(far));
+            }
+            x.off();
+            Due.argument("-1 while off", x, () -> x.replace(-1));
+            Due.argument("one behind the last, while off", x, () -> x.replace(disks));
+        }
     }
 }

@@ -1,87 +1,75 @@
-/** Promise 11: rebuild. */
+/** Promise 11: rebuild. Which position and which spare a step takes is in TermsRebuildTest. */
 public final class Promise11RebuildTest {
     public static void main(String[] args) {
         step();
-        all();
-        whileRowsAreFull();
-        replacedDisk();
+        nothingToDo();
         powerLost();
+        whileOff();
         Due.end();
     }
 
     private static void step() {
-        StripeField x = new StripeField(6, 3, 48);
-        Racks.fill(x);
-        Due.is("nothing to do", x.rebuild(), 0);
+        Due.sentence("A step of rebuilding: 1");
+        Field x = Racks.six();
         x.fail(5);
-        // In row 0 disk 5 has a spare; in row 1, whose step is 5, position 2.
-        int writes = x.look(1);
-        Due.is("a step", x.rebuild(), 1);
-        Due.is("one write", x.look(1), writes + 1);
-        Due.is("lost", x.look(2), 23);
-        Due.is("free spares", x.look(4), 48 * 3 - 24 - 1);
-        Due.is("the first spare of row 1: position 3", x.place(1, 2), 4);
-        Due.is("no more than that", x.place(2, 2), 4);
-        Racks.areFilled("a step", x);
+        int writes = x.look(Racks.WRITES);
+        for (int step = 1; step <= 24; step++) {
+            Due.is("a step", x.rebuild(), 1);
+            Due.is("one write each", x.look(Racks.WRITES), writes + step);
+            Due.is("lost", x.look(Racks.LOST), 24 - step);
+            Due.is("free spares", x.look(Racks.FREE), 48 * 3 - 24 - step);
+        }
+        Due.is("nothing more", x.rebuild(), 0);
+        Racks.areFilled("rebuilt", x, x.blocks);
     }
 
-    private static void all() {
-        StripeField x = Racks.rebuilt();
-        Due.is("none is lost", x.look(2), 0);
-        Due.is("nothing to do", x.rebuild(), 0);
-        Racks.areFilled("rebuilt", x);
-        Due.is("the next disk fails", x.fail(1), true);
-        Racks.areFilled("second disk failed", x);
-        int lost = x.look(2);
-        Due.is("a step for each", Racks.all(x::rebuild), lost);
-        Due.is("none is lost", x.look(2), 0);
-        Due.is("some were", lost > 0, true);
-        Racks.areFilled("second disk rebuilt", x);
-        Due.is("the third disk fails", x.fail(2), true);
-        Racks.areFilled("third disk failed", x);
-    }
-
-    /** With 7 disks and width 3 a row has one spare alone. */
-    private static void whileRowsAreFull() {
-        StripeField x = new StripeField(7, 3, 48);
-        Racks.fill(x);
-        x.fail(0);
-        Racks.all(x::rebuild);
-        Due.is("none is lost", x.look(2), 0);
-        Due.is("fail", x.fail(1), true);
-        int lost = x.look(2);
-        Due.is("no free spare in any such row", x.rebuild(), 0);
-        Due.is("lost", x.look(2), lost);
-        Racks.areFilled("full", x);
-    }
-
-    private static void replacedDisk() {
-        StripeField x = new StripeField(6, 3, 48);
-        Racks.fill(x);
-        x.fail(0);
-        x.rebuild();
-        x.replace(0);
-        Due.is("home's disk is live", x.rebuild(), 0);
-        Due.is("lost", x.look(2), 23);
+    private static void nothingToDo() {
+        Due.sentence("0 when there is nothing to do");
+        Field x = Racks.six();
+        Due.is("none is lost", x.rebuild(), 0);
+        x.lose(1);
+        Due.is("no write, so no power lost", x.rebuild(), 0);
+        Due.is("on", x.look(Racks.ON), 1);
+        Field y = Racks.rebuilt();
+        String before = Racks.seen(y);
+        Due.is("all are rebuilt", y.rebuild(), 0);
+        Due.is("nothing changes", Racks.seen(y), before);
+        Field z = Racks.six();
+        z.fail(0);
+        z.replace(0);
+        Due.is("homes are live", z.rebuild(), 0);
     }
 
     private static void powerLost() {
-        StripeField x = new StripeField(6, 3, 48);
-        Racks.fill(x);
+        Due.sentence("-1 when power was lost.");
+        Field x = Racks.six();
         x.fail(0);
-        int writes = x.look(1);
+        int writes = x.look(Racks.WRITES);
         x.lose(1);
         Due.is("power lost", x.rebuild(), -1);
-        Due.is("no write", x.look(1), writes);
-        Due.is("lost", x.look(2), 24);
-        Due.state("rebuild while off", x, x::rebuild);
+        Due.is("off", x.look(Racks.ON), 0);
+        Due.is("no write", x.look(Racks.WRITES), writes);
+        Due.is("lost", x.look(Racks.LOST), 24);
         x.open();
-        Due.is("lost", x.look(2), 24);
+        Due.is("lost", x.look(Racks.LOST), 24);
         x.lose(2);
         Due.is("a step", x.rebuild(), 1);
-        Due.is("power lost", x.rebuild(), -1);
+        Due.is("power lost at the next", x.rebuild(), -1);
         x.open();
-        Due.is("lost", x.look(2), 23);
-        Racks.areFilled("opened", x);
+        Due.is("lost", x.look(Racks.LOST), 23);
+        Racks.areFilled("opened", x, x.blocks);
+    }
+
+    private static void whileOff() {
+        Due.sentence("Throws IllegalStateException when it is off.");
+        Field x = Racks.six();
+        x.off();
+        Due.state("nothing to do", x, x::rebuild);
+        x.fail(0);
+        Due.state("something to do", x, x::rebuild);
+        x.open();
+        x.lose(1);
+        x.rebuild();
+        Due.state("power lost", x, x::rebuild);
     }
 }

@@ -1,83 +1,71 @@
-/** Promise 13: scrub. */
+/** Promise 13: scrub. What a step does is in TermsScrubTest. */
 public final class Promise13ScrubTest {
     public static void main(String[] args) {
-        inTurn();
-        spoilt();
-        spoiltSpare();
+        written();
+        notWritten();
         powerLost();
+        whileOff();
         Due.end();
     }
 
-    private static void inTurn() {
-        StripeField x = new StripeField(10, 4, 48);
-        Racks.fill(x);
-        int writes = x.look(1);
-        for (int s = 0; s < 96; s++) {
-            Due.is("next", x.look(8), s);
-            Due.is("scrub", x.scrub(), 0);
-        }
-        Due.is("behind the last one", x.look(8), 0);
-        x.fail(4);
-        for (int s = 0; s < 97; s++) {
-            Due.is("scrub", x.scrub(), 0);
-        }
-        Due.is("next", x.look(8), 1);
-        Due.is("no write", x.look(1), writes);
-        Due.is("holes", x.look(6), 0);
-    }
-
-    private static void spoilt() {
-        for (int column = 0; column < 3; column++) {
-            StripeField x = new StripeField(6, 3, 48);
-            Racks.fill(x);
-            int writes = x.look(1);
-            x.spoil(x.place(1, column), 1, 20, 8, -1L);
-            Due.is("stripe 0 is right", x.scrub(), 0);
-            Due.is("stripe 1 is not", x.scrub(), 1);
-            Due.is("one write", x.look(1), writes + 1);
-            Due.is("none is spoilt", x.look(3), 0);
-            Due.is("next", x.look(8), 2);
-            Due.is("holes", x.look(6), 0);
-            Racks.areFilled("scrubbed", x);
-            for (int other = 0; other < 3; other++) {
-                if (other != column) {
-                    Due.is("spoil another", x.spoil(x.place(1, other), 1, 0, 8, -1L), true);
-                    Racks.areFilled("reckoned with what was written", x);
-                    x.spoil(x.place(1, other), 1, 0, 8, -1L);
-                }
+    private static void written() {
+        Due.sentence("A step of scrubbing: 1 when a cell was written anew");
+        for (int row = 0; row < 48; row += 47) {
+            Field x = Racks.six();
+            int writes = x.look(Racks.WRITES);
+            x.spoil(x.place(row, 1), row, 69, 1, 128);
+            for (int s = 0; s < 48; s++) {
+                Due.is("stripe " + s, x.scrub(), s == row ? 1 : 0);
             }
+            Due.is("one write", x.look(Racks.WRITES), writes + 1);
+            Due.is("none is spoilt", x.look(Racks.SPOILT), 0);
+            Racks.areFilled("scrubbed", x, x.blocks);
         }
     }
 
-    private static void spoiltSpare() {
-        StripeField x = Racks.rebuilt();
-        x.spoil(3, 0, 64, 2, 0x101);
-        Due.is("scrub", x.scrub(), 1);
-        Due.is("the place stays", x.place(0, 0), 3);
-        x.off();
-        x.open();
-        Due.is("it has its tag", x.place(0, 0), 3);
-        Racks.areFilled("scrubbed", x);
+    private static void notWritten() {
+        Due.sentence("0 when not");
+        Field x = Racks.six();
+        int writes = x.look(Racks.WRITES);
+        x.lose(1);
+        Due.is("all are right", x.scrub(), 0);
+        x.fail(0);
+        Due.is("one is lost", x.scrub(), 0);
+        Due.is("no write", x.look(Racks.WRITES), writes);
+        Due.is("so no power lost", x.look(Racks.ON), 1);
+        Due.is("a lost one stays lost", x.place(1, 1), -1);
     }
 
     private static void powerLost() {
-        StripeField x = new StripeField(6, 3, 48);
-        Racks.fill(x);
-        int writes = x.look(1);
+        Due.sentence("-1 when power was lost.");
+        Field x = Racks.six();
+        int writes = x.look(Racks.WRITES);
         x.spoil(0, 0, 0, 1, 1);
         x.lose(1);
         Due.is("power lost", x.scrub(), -1);
-        Due.is("no write", x.look(1), writes);
-        Due.is("spoilt", x.look(3), 1);
-        Due.state("scrub while off", x, x::scrub);
+        Due.is("off", x.look(Racks.ON), 0);
+        Due.is("no write", x.look(Racks.WRITES), writes);
+        Due.is("spoilt", x.look(Racks.SPOILT), 1);
         x.open();
-        Due.is("next", x.look(8), 0);
+        x.lose(2);
+        Due.is("one write further", x.scrub(), 1);
+        Due.is("on", x.look(Racks.ON), 1);
+        Due.is("none is spoilt", x.look(Racks.SPOILT), 0);
+    }
+
+    private static void whileOff() {
+        Due.sentence("Throws IllegalStateException when it is off.");
+        Field x = Racks.six();
+        x.scrub();
+        x.off();
+        Due.state("nothing to do", x, x::scrub);
+        x.open();
+        x.spoil(0, 0, 0, 1, 1);
+        x.off();
+        Due.state("something to do", x, x::scrub);
+        x.open();
         x.lose(1);
         x.scrub();
-        x.open();
-        Due.is("scrub", x.scrub(), 1);
-        x.lose(1);
-        Due.is("no write, so no power lost", x.scrub(), 0);
-        Due.is("on", x.look(0), 1);
+        Due.state("power lost", x, x::scrub);
     }
 }
